@@ -393,6 +393,10 @@ public final class PromisesTest {
         is("BEST of the other END 1", y.end(1, 6), 2);
         y = told("L191111919b4b");
         is("BEST of like ones by AGE 1", y.end(1, 6), 1);
+        is("BEST by all TICKS till QUIET", told("L191191119a4").end(0, 6), 1);
+        // By COUNT 9 (PRICE 202, else 219) END 1's LETTER finds THE LINK AWAKE still.
+        is("BEST is 9", told("L191191119aaaaaaaa1a91b").end(0, 6), 9);
+        is("no COUNT of 10", told("L191121119aaaaaaaaa92b").end(0, 6), 1);
     }
 
     // ---- promise 8
@@ -660,6 +664,12 @@ public final class PromisesTest {
         writeAll(x, "L191291119a4a");
         x.link();
         is("PRICE of COUNT 2", x.play(0), 81);
+        writeAll(x, "L191291119aaaaaaaa1a91b");
+        x.link();
+        is("PRICE with END 1's LETTER alone", x.play(0), 219);
+        writeAll(x, "L191991119aaaaaaaa1a91b");
+        x.link();
+        is("PRICE with END 1's LETTER among the others", x.play(0), 202);
         writeAll(x, "L12111111" + "a".repeat(11));
         x.link();
         // Nine TICKS to send, the last one's delay is 9; then SINK.
