@@ -2,8 +2,14 @@
 final class Due {
     private static int right = 0;
     private static int wrong = 0;
+    private static String sentence = "";
 
     private Due() {
+    }
+
+    /** What is looked at from here on stands for this sentence of the document. */
+    static void about(String told) {
+        sentence = "[" + told + "] ";
     }
 
     static void is(String what, long got, long want) {
@@ -11,7 +17,7 @@ final class Due {
             right++;
         } else {
             wrong++;
-            System.out.println(what + " answered " + got + ", due is " + want);
+            System.out.println(sentence + what + " answered " + got + ", due is " + want);
         }
     }
 
@@ -20,7 +26,7 @@ final class Due {
             right++;
         } else {
             wrong++;
-            System.out.println("not so: " + what);
+            System.out.println(sentence + "not so: " + what);
         }
     }
 

@@ -30,7 +30,10 @@ public final class ModelTest {
 
     private void same(String call, long got, long want) {
         calls++;
-        Due.is("run " + run + ", call " + calls + ": " + call, got, want);
+        // What later calls answer is free.
+        if (calls <= CALLS) {
+            Due.is("run " + run + ", call " + calls + ": " + call, got, want);
+        }
     }
 
     private int upTo(int most) {

@@ -1,9 +1,7 @@
 import java.util.Random;
 
 /** Promise by promise: ordinary calls, edges and wrong inputs, with answers worked out by hand from the document. */
-public final class PromisesTest {
-    private static final int UNKNOWN = DozeLink.UNKNOWN, OUTSIDE = DozeLink.OUTSIDE, STATE = DozeLink.STATE,
-            FULL = DozeLink.FULL, NONE = DozeLink.NONE;
+public final class PromisesTest extends Links {
     private static final int[] WRONG = {Integer.MIN_VALUE, -1, 2, 3, 10, 256, Integer.MAX_VALUE};
 
     /** Nine TICKS, a LETTER to END 0, four TICKS, another one; REFRESH 9, AGE 9 of END 0. */
@@ -52,49 +50,6 @@ public final class PromisesTest {
         again();
         count();
         Due.finish("PromisesTest");
-    }
-
-    private static void is(String what, long got, long want) {
-        Due.is(what, got, want);
-    }
-
-    private static DozeLink written(String signs) {
-        DozeLink x = new DozeLink();
-        writeAll(x, signs);
-        return x;
-    }
-
-    private static void writeAll(DozeLink x, String signs) {
-        x.wipe();
-        for (char sign : signs.toCharArray()) {
-            x.write(sign);
-        }
-    }
-
-    private static DozeLink told(String signs) {
-        DozeLink x = written(signs);
-        Due.holds(signs + " is a LINK", x.link() >= 0);
-        return x;
-    }
-
-    /** All that can be asked of an object without changing it, but for THE PLAY. */
-    private static String looks(DozeLink x) {
-        StringBuilder all = new StringBuilder();
-        for (int what = 0; what <= 10; what++) {
-            all.append(x.ask(what)).append(' ');
-        }
-        for (int end = 0; end <= 1; end++) {
-            for (int what = 0; what <= 5; what++) {
-                all.append(x.end(end, what)).append(' ');
-            }
-            for (int i = 0; i < 9; i++) {
-                all.append(x.held(end, i)).append(' ');
-            }
-        }
-        for (int what = 0; what <= 2; what++) {
-            all.append(x.count(what)).append(' ');
-        }
-        return all.toString();
     }
 
     // ---- promise 1
@@ -590,21 +545,23 @@ public final class PromisesTest {
     }
 
     private static void undoBringsAllBack() {
-        Random random = new Random(12);
-        DozeLink x = told("L34234345ab3aab");
-        String[] before = new String[14];
         for (int round = 0; round < 9; round++) {
-            for (int i = 0; i < 14; i++) {
-                before[i] = looks(x);
-                actAtRandom(x, random, i);
+            for (int left = 0; left < 14; left++) {
+                // A new object each time, since one is used for 512 calls at most.
+                DozeLink x = told("L34234345ab3aab");
+                Random random = new Random(12 + round);
+                for (int i = 0; i < left; i++) {
+                    actAtRandom(x, random, i);
+                }
+                String before = looks(x);
+                for (int i = left; i < 14; i++) {
+                    actAtRandom(x, random, i);
+                }
+                for (int i = 13; i >= left; i--) {
+                    is("undo", x.undo(), i);
+                }
+                Due.holds("all is as ahead of ACT " + left, looks(x).equals(before));
             }
-            for (int i = 13; i >= 0; i--) {
-                is("undo", x.undo(), i);
-                Due.holds("all is as ahead of the ACT", looks(x).equals(before[i]));
-            }
-            is("undo none", x.undo(), STATE);
-            x.come(round % 2);
-            x.pass(round + 1);
         }
     }
 
@@ -622,14 +579,12 @@ public final class PromisesTest {
     // ---- promise 13
 
     private static void ahead() {
-        DozeLink x = told("L34234345aab");
-        x.come(1);
-        x.tell(0, 0, 9);
-        String before = looks(x);
+        String before = looks(readyToLookAhead());
+        DozeLink x = readyToLookAhead();
         for (int k = 0; k <= 99; k++) {
-            DozeLink y = told("L34234345aab");
-            y.come(1);
-            y.tell(0, 0, 9);
+            // An object is used for 512 calls at most.
+            x = readyToLookAhead();
+            DozeLink y = readyToLookAhead();
             for (int i = 0; i < k; i++) {
                 y.pass(1);
             }
@@ -643,6 +598,13 @@ public final class PromisesTest {
         is("ahead what -1", x.ahead(0, -1), OUTSIDE);
         is("ahead what 10", x.ahead(0, 10), OUTSIDE);
         is("ahead LOST", told("L12111111aaaaaaaaaaaa").ahead(50, 9), 3);
+    }
+
+    private static DozeLink readyToLookAhead() {
+        DozeLink x = told("L34234345aab");
+        x.come(1);
+        x.tell(0, 0, 9);
+        return x;
     }
 
     // ---- promise 14
