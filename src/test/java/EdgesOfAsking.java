@@ -163,7 +163,13 @@ final class EdgesOfAsking extends Links {
             is("of END 1, in place of what was told", told("L191111" + count + "99b4b").end(1, 6), 2);
         }
         is("all are alike", told("L12111111").end(0, 6), 1);
+        // At 13 COUNT 1 has cost 56, the others 33; QUIET they are 56 and 76.
+        is("of THE PLAY till it is QUIET", told("L191191119a4").end(0, 6), 1);
         is("all are alike, of END 1", told(TWO_APART).end(1, 6), 1);
+        // ENERGY is 93, by COUNTS of 3 or more 83; PRICE 103, by these 111.
+        is("DELAYS count", told("L191191119aa8a").end(0, 6), 1);
+        // ENERGY and DELAYS are 223, by COUNTS of 2 or more 208, but one LETTER is LOST by these.
+        is("LETTERS that are LOST count", told("L191191119a8aaaaaaaaa").end(0, 6), 1);
         // By COUNT 9 (PRICE 202, else 219) END 1's LETTER finds THE LINK AWAKE still.
         is("9", told("L191191119aaaaaaaa1a91b").end(0, 6), 9);
         is("9 of END 1", told("L191111199bbbbbbbb1b91a").end(1, 6), 9);
@@ -600,6 +606,10 @@ final class EdgesOfAsking extends Links {
         luckIs(ten, 1, 141, 5, 1, 1);
         luckIs(ten, 2, 140, 5, 1, 4);
         luckIs(new DozeLink(), 6, 18, 10, 1, 1);
+        String behindTheFirst = "1" + "a1".repeat(34);
+        int without = energyOf("L12111111" + behindTheFirst);
+        luckIs(told("L12111111a" + behindTheFirst), 1, without, 10, 1, 1);
+        luckIs(told("L12111111a" + behindTheFirst), 1, without - 1, 10, 0, 1);
         for (int x : new int[] {-1, 11}) {
             is("no tenths " + x, ten.luck(0, 0, x, true), OUTSIDE);
         }
@@ -619,6 +629,11 @@ final class EdgesOfAsking extends Links {
         luckIs(x, 1, 9999, 5, 1, 1);
         is("no -1", x.luck(1, -1, 5, true), OUTSIDE);
         is("no 10000", x.luck(1, 10000, 5, true), OUTSIDE);
+        // Held back by COUNT the LETTER waits for AGE: 88 in place of 69.
+        for (String signs : new String[] {"L121381119a", "L121111389b"}) {
+            luckIs(told(signs), 1, 87, 5, 1, 2);
+            luckIs(told(signs), 1, 88, 5, 1, 1);
+        }
         DozeLink longest = told("L99999999" + "a9".repeat(35));
         luckIs(longest, 6, 9999, 3, 1, 1);
         luckIs(longest, 6, 0, 3, 0, 1);
@@ -710,6 +725,11 @@ final class EdgesOfAsking extends Links {
         }
         int[] none = {-1, -1, -1, -1, -1, -1, -1, -1, -1};
         for (int end = 0; end <= 1; end++) {
+            DozeLink asleep = told("L121991992");
+            asleep.seed(firstHits(new int[] {end, -1, -1, -1, -1, -1, -1, -1, -1, -1, -1}));
+            is("a plain one waits for AGE", asleep.drawn(10), 0);
+            asleep.seed(firstHits(new int[] {end, -1, -1, -1, -1, -1, -1, -1, -1, -1, -1}));
+            is("it came ahead of the first TICK", asleep.drawn(11), 11);
             DozeLink nine = new DozeLink();
             comeTo(nine, end, 9);
             nine.seed(firstHits(new int[] {end, -1, -1, -1, -1, -1, -1, -1, -1, -1}));

@@ -57,6 +57,16 @@ final class EdgesOfTerms extends Links {
         }
         // Two TICKS till it is ASLEEP, then a REFRESH every second one.
         is("the 512th call", x.ask(5), 18 + 10218 + 4 * 5109);
+        DozeLink y = new DozeLink();
+        for (int round = 0; round < 26; round++) {
+            comeTo(y, 0, 9);
+            comeTo(y, 1, 9);
+            y.pass(20);
+        }
+        // First 1 to 9 of each END, then 3 to 11, since it must be woken.
+        is("SENT", y.ask(6), 26 * 18);
+        is("DELAYS", y.ask(7), 2 * 45 + 25 * 2 * 63);
+        is("LONGEST", y.ask(8), 11);
     }
 
     // ---- refusals
@@ -779,6 +789,12 @@ final class EdgesOfTerms extends Links {
         is("the first of two", z.end(1, 3), 2);
         z.pass(1);
         is("the second of two", z.end(1, 3), 7);
+        for (int time = 1; time <= 9; time++) {
+            DozeLink later = told("L12111111" + time);
+            later.tell(1, 0, 9);
+            later.pass(20);
+            is("later", later.end(0, 3), 9);
+        }
     }
 
     private static void come() {
@@ -963,10 +979,10 @@ final class EdgesOfTerms extends Links {
         is("15 are 14", y.count(4), 14);
         for (int n = 13; n >= 0; n--) {
             is("undo of 14", x.undo(), n);
+            is("one by one", x.ask(4), n * (n + 1) / 2);
             is("undo of 15", y.undo(), n);
+            is("one by one, but for the first of 15", y.ask(4), (n + 1) * (n + 2) / 2);
         }
-        is("all 14 are undone", x.ask(4), 0);
-        is("the first of 15 is not", y.ask(4), 1);
         is("no 15th of 14", x.undo(), STATE);
         is("no 15th of 15", y.undo(), STATE);
         is("THE CLOCK stays", y.ask(4), 1);
